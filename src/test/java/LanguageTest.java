@@ -1,0 +1,103 @@
+import java.io.IOException;
+import java.lang.reflect.Field;
+import java.lang.reflect.Method;
+import java.lang.reflect.Modifier;
+import java.nio.file.Files;
+import java.nio.file.Path;
+import java.util.Set;
+import java.util.TreeSet;
+import java.util.regex.Matcher;
+import java.util.regex.Pattern;
+
+/** Checks the public face and those rules of LANGUAGE.md that show in the class or its text. */
+public final class LanguageTest {
+    private static final Path SOURCE = Path.of("src/main/java/RegisterLab.java");
+
+    private static final Set<String> FACE = Set.of(
+        "public int modulus()", "public boolean append(int)", "public int drop()",
+        "public boolean change(int,int)", "public void clear()", "public int length()",
+        "public int symbol(int)", "public int complexity(int,int)", "public int registers()",
+        "public int coefficient(int)", "public int predict(int)", "public int complexityWith(int)",
+        "public int complexityBackwards()", "public int holdsUntil(int)");
+
+    private static final String FORBIDDEN_WORDS = "package|import|throw|throws|try|catch|finally|synchronized"
+        + "|assert|instanceof|null|float|double|interface|enum|record|var|super|extends|implements"
+        + "|protected|String|Math|Integer|Long|System|Arrays|Object|toString|equals|hashCode|getClass|clone";
+
+    private static int wrong = 0;
+
+    public static void main(String[] args) throws IOException {
+        face();
+        fields();
+        text();
+        System.out.println(wrong == 0 ? "face and language are as due" : wrong + " faults of face or language");
+        if (wrong != 0) {
+            System.exit(1);
+        }
+    }
+
+    private static void need(boolean holds, String rule) {
+        if (!holds) {
+            wrong++;
+            System.out.println("broken: " + rule);
+        }
+    }
+
+    private static void face() {
+        Class<?> lab = RegisterLab.class;
+        need(Modifier.isPublic(lab.getModifiers()) && Modifier.isFinal(lab.getModifiers()), "class public and final");
+        need(lab.getSuperclass() == Object.class && lab.getInterfaces().length == 0, "class stands alone");
+        need(lab.getDeclaredClasses().length == 0, "no nested class");
+        need(lab.getDeclaredConstructors().length == 1, "one constructor");
+        need(lab.getDeclaredConstructors()[0].toString().equals("public RegisterLab(int)"), "RegisterLab(int)");
+        Set<String> publicOnes = new TreeSet<>();
+        Set<String> names = new TreeSet<>();
+        for (Method m : lab.getDeclaredMethods()) {
+            need(m.getParameterCount() <= 7, "at most seven parameters: " + m);
+            if (!Modifier.isPrivate(m.getModifiers())) {
+                publicOnes.add(m.toString().replace("RegisterLab.", ""));
+                names.add(m.getName());
+            }
+        }
+        need(publicOnes.equals(FACE), "the methods of the document and no other: " + publicOnes);
+        for (Method m : lab.getDeclaredMethods()) {
+            need(!Modifier.isPrivate(m.getModifiers()) || !names.contains(m.getName()),
+                "no private method with a public one's name: " + m);
+        }
+    }
+
+    private static void fields() {
+        int ownFields = 0;
+        for (Field f : RegisterLab.class.getDeclaredFields()) {
+            int mods = f.getModifiers();
+            Class<?> type = f.getType();
+            need(Modifier.isPrivate(mods) || f.toString().equals("public static final int RegisterLab.NONE"),
+                "private but for NONE: " + f);
+            need(!Modifier.isStatic(mods) || Modifier.isFinal(mods) && (type == int.class || type == long.class),
+                "static fields are constants of int or long: " + f);
+            Class<?> base = type.isArray() ? type.getComponentType() : type;
+            need(base.isPrimitive() && base != float.class && base != double.class, "type of " + f);
+            ownFields += Modifier.isStatic(mods) ? 0 : 1;
+        }
+        need(ownFields <= 40, "some forty fields at most");
+        need(RegisterLab.NONE == -1, "NONE is -1");
+    }
+
+    private static void text() throws IOException {
+        String code = Files.readString(SOURCE)
+            .replaceAll("(?s)/\\*.*?\\*/", " ")
+            .replaceAll("//[^\n]*", " ");
+        Matcher word = Pattern.compile("\\b(" + FORBIDDEN_WORDS + ")\\b").matcher(code);
+        while (word.find()) {
+            need(false, "word outside the language: " + word.group());
+        }
+        need(!code.contains("->") && !code.contains("::"), "no lambda and no method reference");
+        need(!code.contains("\"") && !code.contains("@"), "no text and no annotation");
+        Matcher made = Pattern.compile("\\bnew\\b[^;]*;").matcher(code);
+        while (made.find()) {
+            need(made.group().matches("new int\\[[A-Z_]+\\];"), "arrays alone, with a constant length: " + made.group());
+        }
+        int firstMethod = code.indexOf("public RegisterLab(");
+        need(code.lastIndexOf("new ") < firstMethod, "arrays are made in the fields' initialisers");
+    }
+}
