@@ -4,7 +4,11 @@ import java.lang.reflect.Method;
 import java.lang.reflect.Modifier;
 import java.nio.file.Files;
 import java.nio.file.Path;
+import java.util.ArrayList;
+import java.util.List;
+import java.util.Map;
 import java.util.Set;
+import java.util.TreeMap;
 import java.util.TreeSet;
 import java.util.regex.Matcher;
 import java.util.regex.Pattern;
@@ -30,6 +34,7 @@ public final class LanguageTest {
         face();
         fields();
         text();
+        methods();
         System.out.println(wrong == 0 ? "face and language are as due" : wrong + " faults of face or language");
         if (wrong != 0) {
             System.exit(1);
@@ -83,10 +88,14 @@ public final class LanguageTest {
         need(RegisterLab.NONE == -1, "NONE is -1");
     }
 
-    private static void text() throws IOException {
-        String code = Files.readString(SOURCE)
+    private static String codeWithoutComments() throws IOException {
+        return Files.readString(SOURCE)
             .replaceAll("(?s)/\\*.*?\\*/", " ")
             .replaceAll("//[^\n]*", " ");
+    }
+
+    private static void text() throws IOException {
+        String code = codeWithoutComments();
         Matcher word = Pattern.compile("\\b(" + FORBIDDEN_WORDS + ")\\b").matcher(code);
         while (word.find()) {
             need(false, "word outside the language: " + word.group());
@@ -99,5 +108,71 @@ public final class LanguageTest {
         }
         int firstMethod = code.indexOf("public RegisterLab(");
         need(code.lastIndexOf("new ") < firstMethod, "arrays are made in the fields' initialisers");
+    }
+
+    // The source is laid out so that a method starts and ends at an indent of four.
+    private static void methods() throws IOException {
+        Map<String, String> bodies = new TreeMap<>();
+        Matcher method = Pattern.compile("(?ms)^    (?:public|private) [^=;{]*?(\\w+)\\([^)]*\\) \\{\n(.*?)^    \\}$")
+            .matcher(codeWithoutComments());
+        while (method.find()) {
+            need(bodies.put(method.group(1), method.group(2)) == null, "one method of a name: " + method.group(1));
+        }
+        need(bodies.size() == RegisterLab.class.getDeclaredMethods().length + 1, "every method is found in the text");
+        for (Map.Entry<String, String> m : bodies.entrySet()) {
+            need(m.getValue().lines().count() <= 60, "some sixty lines at most: " + m.getKey());
+            need(depth(m.getKey(), bodies, 1) <= 6, "calls at most six deep, no recursion: " + m.getKey());
+            noCallInArguments(m.getKey(), m.getValue(), bodies);
+            countedLoops(m.getKey(), m.getValue());
+        }
+    }
+
+    private static List<String> callsIn(String text, Map<String, String> bodies) {
+        List<String> calls = new ArrayList<>();
+        Matcher call = Pattern.compile("\\b(\\w+)\\s*\\(").matcher(text);
+        while (call.find()) {
+            if (bodies.containsKey(call.group(1))) {
+                calls.add(call.group(1));
+            } else {
+                need(call.group(1).matches("if|for|while|switch|return"), "a method of the class: " + call.group(1));
+            }
+        }
+        return calls;
+    }
+
+    private static int depth(String method, Map<String, String> bodies, int above) {
+        int deepest = above;
+        // Recursion would go down for ever: seven is too deep already.
+        if (above <= 6) {
+            for (String called : callsIn(bodies.get(method), bodies)) {
+                deepest = Math.max(deepest, depth(called, bodies, above + 1));
+            }
+        }
+        return deepest;
+    }
+
+    private static void noCallInArguments(String name, String body, Map<String, String> bodies) {
+        Matcher call = Pattern.compile("\\b(\\w+)\\s*\\(").matcher(body);
+        while (call.find()) {
+            if (!bodies.containsKey(call.group(1))) {
+                continue;
+            }
+            int open = 1;
+            int end = call.end();
+            while (open > 0) {
+                open += body.charAt(end) == '(' ? 1 : body.charAt(end) == ')' ? -1 : 0;
+                end++;
+            }
+            need(callsIn(body.substring(call.end(), end), bodies).isEmpty(), "no call inside a call's arguments: " + name);
+        }
+    }
+
+    private static void countedLoops(String name, String body) {
+        need(!Pattern.compile("\\b(while|do)\\b").matcher(body).find(), "counted loops alone: " + name);
+        Matcher loop = Pattern.compile("\\bfor \\(([^)]*)\\)").matcher(body);
+        while (loop.find()) {
+            boolean counted = loop.group(1).matches("int (\\w+) = [^;]+; \\1 (<=?|>=?) [^;]+; \\1(\\+\\+|--)");
+            need(counted, "a counter against a bound in " + name + ": " + loop.group(1));
+        }
     }
 }

@@ -53,13 +53,16 @@ public final class ReferenceTest {
 
     private static void compareQuestions(Reference r, RegisterLab x) {
         due(r, "length()", x.length(), r.n);
-        due(r, "complexity(0, n)", x.complexity(0, r.n), r.complexity(0, r.n));
-        due(r, "complexity(1, n)", x.complexity(1, r.n), r.complexity(1, r.n));
+        for (int from = -1; from <= r.n + 1; from++) {
+            for (int to = -1; to <= r.n + 1; to++) {
+                due(r, "complexity(" + from + ", " + to + ")", x.complexity(from, to), r.complexity(from, to));
+            }
+        }
         due(r, "registers()", x.registers(), r.registers());
         for (int i = 0; i <= r.n + 1; i++) {
             due(r, "coefficient(" + i + ")", x.coefficient(i), r.coefficient(i));
         }
-        for (int j : new int[] {-1, 0, 1, 7, 40, 41}) {
+        for (int j = -1; j <= 41; j++) {
             due(r, "predict(" + j + ")", x.predict(j), r.predict(j));
         }
         for (int v = -1; v <= r.q; v++) {
