@@ -110,6 +110,11 @@ public final class BoundariesTest {
             due("coefficient(1) of 1 0", x.coefficient(1), 0);
             // Were q a coefficient too, or 0 or q - 1 none, then another number would be counted.
             due("registers() of one symbol", lab(q, q - 1).registers(), q);
+            // 0 1 and then two symbols by c1 = c2 = q - 1, the last register of its length.
+            x = lab(q, 0, 1, q - 1, (q - 1) * q % q);
+            due("coefficient(1) of the last register of length 2", x.coefficient(1), q - 1);
+            due("coefficient(2) of the last register of length 2", x.coefficient(2), q - 1);
+            due("registers() of the last register of length 2", x.registers(), 1);
         }
     }
 
