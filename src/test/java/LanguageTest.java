@@ -28,6 +28,10 @@ public final class LanguageTest {
         + "|assert|instanceof|null|float|double|interface|enum|record|var|super|extends|implements"
         + "|protected|String|Math|Integer|Long|System|Arrays|Object|toString|equals|hashCode|getClass|clone";
 
+    // What stands behind && may end a loop early; the counter must run towards its bound without it.
+    private static final Pattern LOOP_HEAD = Pattern.compile(" \\(int (?<counter>\\w+) = [^;]+; "
+        + "(?<test>\\k<counter> (?:<=?|(?<down>>=?)) [^;&|?]+)(?: && [^;|?]+)?; \\k<counter>(?:\\+\\+|(?<back>--))\\) \\{");
+
     private static int wrong = 0;
 
     public static void main(String[] args) throws IOException {
@@ -123,7 +127,7 @@ public final class LanguageTest {
             need(m.getValue().lines().count() <= 60, "some sixty lines at most: " + m.getKey());
             need(depth(m.getKey(), bodies, 1) <= 6, "calls at most six deep, no recursion: " + m.getKey());
             noCallInArguments(m.getKey(), m.getValue(), bodies);
-            countedLoops(m.getKey(), m.getValue());
+            countedLoops(m.getKey(), m.getValue(), bodies);
         }
     }
 
@@ -157,22 +161,70 @@ public final class LanguageTest {
             if (!bodies.containsKey(call.group(1))) {
                 continue;
             }
-            int open = 1;
-            int end = call.end();
-            while (open > 0) {
-                open += body.charAt(end) == '(' ? 1 : body.charAt(end) == ')' ? -1 : 0;
-                end++;
-            }
-            need(callsIn(body.substring(call.end(), end), bodies).isEmpty(), "no call inside a call's arguments: " + name);
+            String arguments = upToClosing(body, call.end(), '(', ')');
+            need(callsIn(arguments, bodies).isEmpty(), "no call inside a call's arguments: " + name);
         }
     }
 
-    private static void countedLoops(String name, String body) {
+    private static void countedLoops(String name, String body, Map<String, String> bodies) {
         need(!Pattern.compile("\\b(while|do)\\b").matcher(body).find(), "counted loops alone: " + name);
-        Matcher loop = Pattern.compile("\\bfor \\(([^)]*)\\)").matcher(body);
+        Matcher loop = Pattern.compile("\\bfor\\b([^\n]*)").matcher(body);
         while (loop.find()) {
-            boolean counted = loop.group(1).matches("int (\\w+) = [^;]+; \\1 (<=?|>=?) [^;]+; \\1(\\+\\+|--)");
-            need(counted, "a counter against a bound in " + name + ": " + loop.group(1));
+            Matcher head = LOOP_HEAD.matcher(loop.group(1));
+            if (!head.matches() || (head.group("down") == null) != (head.group("back") == null)) {
+                need(false, "a counter against a bound in " + name + ": " + loop.group(1));
+                continue;
+            }
+            String inside = upToClosing(body, loop.end(), '{', '}');
+            for (String fixed : head.group("test").split("\\W+")) {
+                need(!changedBy(inside, bodies).contains(fixed), "a loop that leaves " + fixed + " alone in " + name);
+            }
         }
+    }
+
+    /** What the text itself assigns to, and the fields that the methods it calls assign to. */
+    private static Set<String> changedBy(String text, Map<String, String> bodies) {
+        Set<String> changed = assignedIn(text);
+        Set<String> reached = new TreeSet<>(callsIn(text, bodies));
+        // Each round reaches one call deeper, and there are no more methods than rounds.
+        for (int round = 0; round < bodies.size(); round++) {
+            for (String method : List.copyOf(reached)) {
+                reached.addAll(callsIn(bodies.get(method), bodies));
+            }
+        }
+        for (String method : reached) {
+            Set<String> there = assignedIn(bodies.get(method));
+            there.retainAll(fieldNames());
+            changed.addAll(there);
+        }
+        return changed;
+    }
+
+    private static Set<String> assignedIn(String text) {
+        Set<String> names = new TreeSet<>();
+        Matcher assigned = Pattern.compile("(?:\\+\\+|--)(\\w+)|\\b(\\w+)\\s*(?:\\+\\+|--|(?:[-+*/%&|^]|<<|>>>?)?=(?!=))")
+            .matcher(text);
+        while (assigned.find()) {
+            names.add(assigned.group(1) == null ? assigned.group(2) : assigned.group(1));
+        }
+        return names;
+    }
+
+    private static Set<String> fieldNames() {
+        Set<String> names = new TreeSet<>();
+        for (Field f : RegisterLab.class.getDeclaredFields()) {
+            names.add(f.getName());
+        }
+        return names;
+    }
+
+    private static String upToClosing(String text, int start, char opening, char closing) {
+        int open = 1;
+        int end = start;
+        while (open > 0) {
+            open += text.charAt(end) == opening ? 1 : text.charAt(end) == closing ? -1 : 0;
+            end++;
+        }
+        return text.substring(start, end);
     }
 }
